@@ -694,13 +694,13 @@ public final class ScriptTests {
             int reached = 1;
             int at = start;
             while (at < end) {
-                int partEnd = Math.max(partEnd(bytes, at, end), at + 1);
+                int next = Math.max(partEnd(bytes, at, end), at + 1);
                 if (bytes.at(at) == '*') {
                     reached = (reached | -reached) & all;
                 } else {
-                    reached = oneSignFurther(bytes, at, partEnd, story, text, reached) & all;
+                    reached = oneSignFurther(bytes, at, next, story, text, reached) & all;
                 }
-                at = partEnd;
+                at = next;
             }
             return (reached >> length & 1) != 0;
         }
@@ -714,20 +714,20 @@ public final class ScriptTests {
             return close + 1;
         }
 
-        private static int oneSignFurther(Bytes bytes, int at, int partEnd, Story story, int text, int reached) {
+        private static int oneSignFurther(Bytes bytes, int at, int next, Story story, int text, int reached) {
             int further = 0;
             for (int k = 0; k < TEXT_SIGNS; k++) {
-                if ((reached >> k & 1) != 0 && takes(bytes, at, partEnd, story.textSign(text, k))) further |= 1 << (k + 1);
+                if ((reached >> k & 1) != 0 && takes(bytes, at, next, story.textSign(text, k))) further |= 1 << (k + 1);
             }
             return further;
         }
 
-        private static boolean takes(Bytes bytes, int at, int partEnd, int sign) {
+        private static boolean takes(Bytes bytes, int at, int next, int sign) {
             int value = bytes.at(at);
             if (value == '.') return true;
             if (value == '\\') return bytes.at(at + 1) == sign;
             if (value != '[') return value == sign;
-            for (int i = at + 1; i < partEnd - 1; i++) {
+            for (int i = at + 1; i < next - 1; i++) {
                 if (bytes.at(i) == sign) return true;
             }
             return false;

@@ -301,7 +301,7 @@ public final class PromisesTest {
 
     private static void scripts() {
         String[] right = {
-            "", "\n", "\n\n\n", "> a", "> a\n", "> abcdef zz q", "= ", "=  ", "= \n", "= ]", "= []]".replace("[]", "[a]"),
+            "", "\n", "\n\n\n", "> a", "> a\n", "> abcdef zz q", "= ", "=  ", "= \n", "= ]", "= [a]]",
             "= [[]", "= [\\]", "= [.*]", "= \\\\", "= \\]x", "= a~ !", "= **", "? 0 0", "? 7 -999999", "? 3 -0", "? 0 000001",
             "@ 0", "@ 7", "! 1", "! 9", "s 0", "s 3", "b 0", "b 3", "# ", "# \u0000\u00ff\t", "# #\n\n@ 1\n",
         };
@@ -342,13 +342,17 @@ public final class PromisesTest {
             "\\", "\\\\", "?", "?", "aXbXc", "a*X*c", "aab", "*ab", "abab", "*ab", "  ", " .", twenty, "*", twenty, twenty,
             twenty, "*t", twenty, repeat(".", 20), "a]", "[a]]", ".", "[.]", "*", "[*]", "[", "[[]", "abc", repeat("*", 500),
         };
-        for (int i = 0; i < fits.length; i += 2) due("9 " + fits[i] + " is " + fits[i + 1], shownIs(fits[i], fits[i + 1]), 0);
+        for (int i = 0; i < fits.length; i += 2) {
+            due("9 " + fits[i] + " is " + fits[i + 1], shownIs(fits[i], fits[i + 1]), 0);
+        }
         String[] unlike = {
             "abc", "ab", "abc", "abcd", "abc", "....", "abc", "..", "", ".", "abc", "*d", "abc", "b*", "abc", "", "abc", "[b]bc",
             "b", "[a-z]", "x", "[.]", "axc", "a\\.c", "abbc", "a.c", "A", "a", "abc", "*b", "ab", "*a*a*", twenty, repeat(".", 21),
             twenty, repeat(".", 19), "a", "[\\]]", "", "[a]",
         };
-        for (int i = 0; i < unlike.length; i += 2) due("9 " + unlike[i] + " is not " + unlike[i + 1], shownIs(unlike[i], unlike[i + 1]), 1);
+        for (int i = 0; i < unlike.length; i += 2) {
+            due("9 " + unlike[i] + " is not " + unlike[i + 1], shownIs(unlike[i], unlike[i + 1]), 1);
+        }
     }
 
     private static int shownIs(String text, String pattern) {
@@ -446,6 +450,8 @@ public final class PromisesTest {
         due("11 the 41st", wrongTranscript(forty + "> a\n?"), 120);
         due("11 the 41st, empty", wrongTranscript(forty + "\n"), 120);
         due("11 wrong ahead of unlike", wrongTranscript("> a\nno\n> A\n?"), 9);
+
+        due("11 the 40th unlike", replay(new ScriptTests(0), repeat("> a\n?\n", 19) + "> a\n."), 40);
 
         ScriptTests x = story(4, "Ok", "", "?", "!4");
         x.rule(0, 0, -1, 0, 1, 0, 1, 0, 1);
@@ -557,6 +563,7 @@ public final class PromisesTest {
         notBefore();
         firstGoes();
         lastMayGo();
+        behindTheEnd();
     }
 
     /** Drawn words of a storm over so many words: a seed x whose storm begins with these. */
@@ -628,6 +635,26 @@ public final class PromisesTest {
         due("15 rule 3", y.storm(seedFor(2, 0, 1), 9), 3);
         y.holder(0, 0, 0, 0);
         due("15 a went, though the whole play no more breaks it", y.shrink(), 1);
+        // b faults only behind a; then a faults itself, so that b, the last, is the one that can go
+        ScriptTests z = story(2, "t");
+        z.rule(0, 0, -1, 0, 4, 0, 0, 0, 1);
+        z.rule(1, 1, -1, 0, 2, 0, 0, 0, -1);
+        z.holder(0, 1, 0, 3);
+        due("15 rule 1", z.storm(seedFor(2, 0, 1), 9), 1);
+        z.holder(0, 0, 0, 0);
+        due("15 the last went", z.shrink(), 1);
+        due("15 a is left", z.played(0), 0);
+    }
+
+    private static void behindTheEnd() {
+        // b is THE END if a was not said, else it leads to where c breaks
+        ScriptTests x = story(3, "t", "");
+        x.rule(-1, 0, -1, 0, 1, 0, 1, 0, -1);
+        x.rule(-1, 1, 0, 1, 0, 0, 0, 0, 1);
+        x.rule(-1, 1, -1, 0, 6, 1, 0, 0, -1);
+        x.rule(1, 2, -1, 0, 0, 0, 0, 1, -1);
+        due("15 rule 2", x.storm(seedFor(3, 0, 1, 2), 9), 2);
+        due("15 nothing breaks behind the end", x.shrink(), 3);
     }
 
     private static void states() {
@@ -688,6 +715,15 @@ public final class PromisesTest {
         due("21 said in all", x.told(7), 20);
     }
 
+    private static void allThirty() {
+        ScriptTests x = story(15, "t");
+        for (int i = 0; i < 30; i++) x.rule(i % 2, i / 2, -1, 0, 0, 0, 0, 0, 1 - i % 2);
+        run(x, "> a a b b c c d d e e f f g g h h i i j j k k l l m m n n o o o o");
+        due("17 the last", x.done(29), 2);
+        due("19 none is left", x.never(0), NONE);
+        due("20 of thirty", shares(x), 1);
+    }
+
     private static int shares(ScriptTests x) {
         try {
             return x.share();
@@ -739,6 +775,7 @@ public final class PromisesTest {
         shrinks();
         states();
         seen();
+        allThirty();
         tolds();
         System.out.println(wrong == 0 ? "all promises hold" : wrong + " answers are not as due");
         if (wrong != 0) System.exit(1);
