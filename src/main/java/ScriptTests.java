@@ -119,9 +119,10 @@ public final class ScriptTests {
     }
 
     private int addScript() {
+        // A place that is WRONG is no refusal: the call that is refused does not tell it.
+        if (scriptCount < 0 || scriptCount >= scripts.length) return FULL;
         int wrong = Grammar.wrongInScript(tape);
         if (wrong != NONE) return WRONG_BASE - wrong;
-        if (scriptCount >= SCRIPTS) return FULL;
         scripts[scriptCount] = tape.copy();
         scriptCount++;
         return scriptCount - 1;

@@ -201,6 +201,7 @@ public final class ModelTest {
 
         int script() {
             String t = used();
+            if (scripts.size() == 10) return FULL;
             int at = 0, number = 0;
             for (String line : lines(t)) {
                 number++;
@@ -210,7 +211,6 @@ public final class ModelTest {
                 }
                 at += line.length() + 1;
             }
-            if (scripts.size() == 10) return FULL;
             scripts.add(t);
             return scripts.size() - 1;
         }

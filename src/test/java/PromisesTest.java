@@ -327,11 +327,16 @@ public final class PromisesTest {
         due("8 600 empty lines", wrongAt(repeat("\n", 600)), NONE);
         due("8 300 words", wrongAt("> " + repeat("a ", 298) + "a"), NONE);
         ScriptTests x = new ScriptTests(0);
-        for (int i = 0; i < 10; i++) due("8 number", script(x, "@ 0"), i);
-        due("8 full", script(x, "@ 0"), FULL);
-        due("8 wrong before full", script(x, "@ 8"), -12);
-        due("8 uses up", x.told(0), 0);
+        for (int i = 0; i < 9; i++) due("8 number", script(x, "@ 0"), i);
+        due("8 wrong while there is room", script(x, "@ 8"), -12);
+        due("8 the tenth", script(x, "@ 0"), 9);
+        String[] refused = {"@ 0", "@ 8", "\0", "", "\n", "= [a", forty + "@ 1"};
+        for (String lines : refused) {
+            due("8 full <" + lines + ">", script(x, lines), FULL);
+            due("8 full uses up", x.told(0), 0);
+        }
         due("8 ten", x.told(4), 10);
+        due("8 the tenth stays", x.run(9), 0);
     }
 
     private static void patterns() {
