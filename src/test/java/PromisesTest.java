@@ -224,11 +224,11 @@ public final class PromisesTest extends Telling {
     @Promise(number = 20, says = "DONE by RULES that were DONE at all, cut.")
     static void share() {
         ScriptTests x = keyStory();
-        due("none", shareOf(x, -99), -99);
+        due("none", shareOf(x), THREW);
         failing(x, "> take take take open roll");
-        due("5 by 3", shareOf(x, -99), 1);
+        due("5 by 3", shareOf(x), 1);
         failing(x, "> take take take");
-        due("8 by 3", shareOf(x, -99), 2);
+        due("8 by 3", shareOf(x), 2);
     }
 
     @Promise(number = 21, says = "How many")

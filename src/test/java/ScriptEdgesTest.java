@@ -119,6 +119,7 @@ public final class ScriptEdgesTest extends Telling {
         due("the 41st", wrongAt("\n".repeat(40) + "@ 1"), 40);
         due("the 40th of both", wrongAt("\n@ 1\n".repeat(19) + "\n@ 1"), NONE);
         due("the 41st of both", wrongAt("\n@ 1\n".repeat(20) + "@ 1"), 100);
+        due("the 600th", wrongAt("\n".repeat(599) + "#"), 599);
     }
 
     @Promise(number = 8, says = "each LINE ends by a byte 10 (the last one also by the end)")
@@ -458,6 +459,9 @@ public final class ScriptEdgesTest extends Telling {
         fit("ab", "[ab][ab]", "[a]b", "a[b]");
         for (String s : new String[] {".", "*", "[", "\\", "-", "^", "?", " "}) fit(s, "[" + s + "]", "[x" + s + "]", "[" + s + "x]");
         doNotFit("b", "[.]", "[*]", "[a-c]", "[^a]", "[\\x]");
+        doNotFit("[", "[a]");
+        doNotFit("]", "[a]");
+        doNotFit("xx", "x[a]", "[a]x");
         doNotFit("bb", "[*]", "[b*]");
         fit("-", "[a-c]");
         fit("^", "[^a]");
@@ -551,6 +555,25 @@ public final class ScriptEdgesTest extends Telling {
         due("back behind THE END", failing(x, "s 0\n> a b\ns 3\nb 0\n= *\n! 8\n> c\nb 3\n! 8\n= t\n@ 7\n? 0 0\n? 6 38\n> c"), "5 6 14");
         due("state", stateOf(x), "7 8 1103527590 0 0 0 0 0 0 0 38 0");
         due("what was SEEN stays so", x.done(0), 3);
+    }
+
+    @Promise(number = 9, says = "A POINT has ROOM, FLAGS, SEED")
+    static void aPointHasTheSeed() {
+        ScriptTests x = story(1, "t");
+        act(x, 0, 5, 6, 100);
+        due("the same is drawn again", failing(x, "> a\n? 6 38\ns 2\n> a\n? 6 58\n> a a\nb 2\n? 6 38\n> a\n? 6 58"), "");
+        due("the SEED behind it", x.state(2), -1770082073);
+        failing(x, "s 0\n> a a a\nb 0");
+        due("as it begins", x.state(2), 1);
+    }
+
+    @Promise(number = 9, says = "A POINT has ROOM, FLAGS")
+    static void aPointHasAllFlags() {
+        for (int flag = 0; flag <= 7; flag++) {
+            ScriptTests x = story(1, "t");
+            act(x, 0, 1, flag, 5);
+            due("FLAG " + flag, failing(x, "> a\ns 0\n> a\nb 0\n? " + flag + " 5\n> a a\ns 1\nb 0\nb 1\n? " + flag + " 15"), "");
+        }
     }
 
     @Promise(number = 9, says = "a FAULT ends it, and its LINE FAILS as well")

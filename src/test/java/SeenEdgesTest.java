@@ -1,7 +1,5 @@
 /** The boundary cases that the document names of what there is: promises 16 to 21. */
 public final class SeenEdgesTest extends Telling {
-    private static final int THREW = -99;
-
     public static void main(String[] args) {
         testAll(SeenEdgesTest.class);
     }
@@ -152,23 +150,32 @@ public final class SeenEdgesTest extends Telling {
         x.storm(1, 1);
         due("never", x.never(0), 0);
         due("DONE", x.done(0), 0);
-        due("share", shareOf(x, THREW), THREW);
+        due("share", shareOf(x), THREW);
     }
 
     @Promise(number = 20, says = "ArithmeticException: none was.")
     static void noneWasDone() {
         ScriptTests x = story(2, "t");
-        due("no RULES", shareOf(x, THREW), THREW);
+        due("no RULES", shareOf(x), THREW);
         shows(x, 0, 0);
-        due("never DONE", shareOf(x, THREW), THREW);
+        due("never DONE", shareOf(x), THREW);
         failing(x, "> b zz");
-        due("only ? was SHOWN", shareOf(x, THREW), THREW);
+        due("only ? was SHOWN", shareOf(x), THREW);
         String told = toldOf(x), state = stateOf(x);
-        due("again", shareOf(x, THREW), THREW);
+        due("again", shareOf(x), THREW);
         due("told", toldOf(x), told);
         due("state", stateOf(x), state);
         failing(x, "> a");
-        due("one was", shareOf(x, THREW), 1);
+        due("one was", shareOf(x), 1);
+    }
+
+    @Promise(number = 20, says = "share() throws ArithmeticException")
+    static void theMachineDoesNotThrow() {
+        try {
+            due("share", new ScriptTests(0).share(), THREW);
+        } catch (ArithmeticException e) {
+            due("a division by 0", "/ by zero".equals(e.getMessage()) ? 1 : 0, 0);
+        }
     }
 
     @Promise(number = 20, says = "DONE by RULES that were DONE at all, cut.")
@@ -176,24 +183,24 @@ public final class SeenEdgesTest extends Telling {
         ScriptTests x = story(4, "t");
         for (int w = 0; w < 4; w++) shows(x, w, 0);
         failing(x, "> a a a a a");
-        due("5 by 1", shareOf(x, THREW), 5);
+        due("5 by 1", shareOf(x), 5);
         failing(x, "> b");
-        due("6 by 2", shareOf(x, THREW), 3);
+        due("6 by 2", shareOf(x), 3);
         failing(x, "> b");
-        due("7 by 2", shareOf(x, THREW), 3);
+        due("7 by 2", shareOf(x), 3);
         failing(x, "> c");
-        due("8 by 3", shareOf(x, THREW), 2);
+        due("8 by 3", shareOf(x), 2);
         failing(x, "> c");
-        due("9 by 3", shareOf(x, THREW), 3);
+        due("9 by 3", shareOf(x), 3);
         ScriptTests y = story(15, "t");
         for (int i = 0; i < 30; i++) y.rule(i % 2, i / 2, -1, 0, 0, 0, 0, 0, 1 - i % 2);
         String all = "> a a b b c c d d e e f f g g h h i i j j k k l l m m n n o o";
         due("all 30", failing(y, all), "");
-        due("30 by 30", shareOf(y, THREW), 1);
+        due("30 by 30", shareOf(y), 1);
         failing(y, all.substring(0, all.length() - 2));
-        due("59 by 30", shareOf(y, THREW), 1);
+        due("59 by 30", shareOf(y), 1);
         failing(y, "> a");
-        due("60 by 30", shareOf(y, THREW), 2);
+        due("60 by 30", shareOf(y), 2);
     }
 
     // ---- 21 told

@@ -66,6 +66,10 @@ public final class StormEdgesTest extends Telling {
         ScriptTests x = story(2, "t");
         x.storm(99, 3);
         due("the SEED stays", x.state(2), 1);
+        ScriptTests y = story(5, "t");
+        for (int w = 0; w < 5; w++) act(y, w, 5, w, 100);
+        y.storm(1, 10);
+        for (int i = 0; i < 10; i++) due("WORD " + i + " while numbers are drawn", y.played(i), DRAWN_BY_ONE[i] % 5);
     }
 
     @Promise(number = 12, says = "are SAID to the STORY begun anew")
@@ -268,20 +272,44 @@ public final class StormEdgesTest extends Telling {
 
     @Promise(number = 15, says = "BREAKS the same rule at its last WORD, not before")
     static void notBefore() {
-        // c meets a FAULT at once if a was not SAID; behind a it leads to ROOM 1, where b meets one
-        ScriptTests x = story(3, "t");
-        x.rule(0, 2, 0, 1, 0, 0, 0, 0, 1);
-        x.rule(0, 2, -1, 0, 4, 0, 0, 0, -1);
+        for (int rule = 1; rule <= 3; rule++) due("rule " + rule + " at c, and at b again", shrunkBy(rule, rule), "acb");
+    }
+
+    @Promise(number = 15, says = "till one BREAKS a rule that must hold")
+    static void noOtherRuleBefore() {
+        due("rule 2 at c, 1 at b", shrunkBy(2, 1), "acb");
+        due("rule 3 at c, 1 at b", shrunkBy(3, 1), "acb");
+        due("rule 1 at c, 2 at b", shrunkBy(1, 2), "acb");
+        due("rule 3 at c, 2 at b", shrunkBy(3, 2), "acb");
+        due("rule 1 at c, 3 at b", shrunkBy(1, 3), "acb");
+        due("rule 2 at c, 3 at b", shrunkBy(2, 3), "acb");
+    }
+
+    /**
+     * What is left of a c b, which BREAKS a rule at b: a opens the way of c to ROOM 1, and b BREAKS none behind a in ROOM 0.
+     * Without a, c BREAKS a rule of its own, and b would BREAK behind it as it did.
+     */
+    private static String shrunkBy(int ruleOfC, int ruleOfB) {
+        ScriptTests x = story(3, "t", "");
         act(x, 0, 1, 0, 1);
-        x.rule(1, 1, -1, 0, 4, 0, 0, 0, -1);
-        due("rule 1", x.storm(stormOf(3, "acb"), 60), 1);
-        due("c b BREAKS at c", x.shrink(), 3);
-        due("the PLAY", playOf(x), "acb");
+        x.rule(0, 1, 0, 1, 0, 0, 0, 0, -1);
+        breaks(x, 1, ruleOfB);
+        x.rule(0, 2, 0, 1, 0, 0, 0, 0, 1);
+        breaks(x, 2, ruleOfC);
+        due("rule " + ruleOfB, x.storm(stormOf(3, "acb"), 60), ruleOfB);
+        due("WORDS", x.shrink(), 3);
+        return playOf(x);
+    }
+
+    private static void breaks(ScriptTests x, int word, int rule) {
+        if (rule == 1) act(x, word, 4, 0, 0);
+        if (rule == 2) shows(x, word, 1);
+        if (rule == 3) act(x, word, 1, 1, -1);
     }
 
     @Promise(number = 15, says = "so that what is left BREAKS the same rule at its last WORD")
     static void nothingIsSaidBehindTheEnd() {
-        // b is THE END if a was not SAID, else it leads to where c BREAKS
+        // b is THE END if a was not SAID; c BREAKS wherever it is SAID
         ScriptTests x = story(3, "t", "");
         act(x, 0, 1, 0, 1);
         x.rule(-1, 1, 0, 1, 0, 0, 0, 0, 1);
@@ -289,10 +317,11 @@ public final class StormEdgesTest extends Telling {
         shows(x, 2, 1);
         due("rule 2", x.storm(stormOf(3, "abc"), 60), 2);
         due("c alone", x.shrink(), 1);
+        // b leads to where c BREAKS, be it THE END or not
         ScriptTests y = story(3, "t", "");
         act(y, 0, 1, 0, 1);
         y.rule(-1, 1, 0, 1, 0, 0, 0, 0, 1);
-        act(y, 1, 6, 1, 0);
+        y.rule(-1, 1, -1, 0, 6, 1, 0, 0, 1);
         y.rule(1, 2, -1, 0, 0, 0, 0, 1, -1);
         due("rule 2", y.storm(stormOf(3, "abc"), 60), 2);
         due("c wants b, b wants a", y.shrink(), 3);
@@ -345,6 +374,18 @@ public final class StormEdgesTest extends Telling {
         x.holder(0, 0, 0, 0);
         due("a is left", x.shrink(), 1);
         due("the PLAY", playOf(x), "a");
+    }
+
+    @Promise(number = 15, says = "are SAID to the STORY begun anew")
+    static void shrinkingBeginsByTheSeed() {
+        // by the SEED 1 the numbers below 100 that a draws are 38, then 58
+        for (int drawn = 1; drawn <= 2; drawn++) {
+            ScriptTests x = story(2, "t", "");
+            act(x, 0, 5, 0, 100);
+            x.rule(-1, 1, 0, drawn == 1 ? 38 : 58, 0, 0, 0, 1, -1);
+            due("rule 2", x.storm(stormOf(2, "aab"), 60), 2);
+            due("b wants number " + drawn, x.shrink(), drawn + 1);
+        }
     }
 
     @Promise(number = 15, says = "(not by what shrinking tries)")

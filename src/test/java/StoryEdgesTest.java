@@ -125,6 +125,31 @@ public final class StoryEdgesTest extends Telling {
         due("what it has", x.script(), -10 - 599);
     }
 
+    @Promise(number = 2, says = "what reads THE TAPE uses it up")
+    static void othersLeaveTheTape() {
+        ScriptTests x = story(1, "t");
+        failing(x, "@ 1\n> a");
+        feed(x, "@ 2\n");
+        String[] calls = {"rule", "holder", "seed", "run", "failed", "storm", "play", "played", "shrink", "state", "done", "shown",
+            "never", "share", "told"};
+        int[] answers = {shows(x, 0, 0), x.holder(0, 1, 0, 1), x.seed(1), x.run(0), x.failed(0, 0), x.storm(1, 1), x.play(),
+            x.played(0), x.shrink(), x.state(0), x.done(0), x.shown(0), x.never(0), shareOf(x), x.told(0)};
+        int[] due = {0, 1, 1, 1, 1, 0, 1, 0, STATE, 0, 2, 2, NONE, 2, 4};
+        for (int i = 0; i < calls.length; i++) due(calls[i], answers[i], due[i]);
+        refuseAll(x);
+        due("THE TAPE", x.told(0), 4);
+        due("what it has, and more", failing(x, "@ 0\n@ 3"), "1 3");
+    }
+
+    /** Calls that do not read THE TAPE, each of them refused. */
+    private static void refuseAll(ScriptTests x) {
+        int[] answers = {shows(x, 1, 0), act(x, 0, 7, 0, 0), x.holder(4, 0, 0, 0), x.holder(0, 3, 0, 0), x.run(1), x.failed(9, 0),
+            x.failed(0, 2), x.storm(1, 61), x.played(60), x.shrink(), x.state(12), x.done(1), x.shown(1), x.told(8), x.feed(0, 9)};
+        int[] due = {UNKNOWN, OUTSIDE, UNKNOWN, OUTSIDE, UNKNOWN, UNKNOWN, OUTSIDE, OUTSIDE, UNKNOWN, STATE, OUTSIDE, UNKNOWN, UNKNOWN,
+            OUTSIDE, OUTSIDE};
+        for (int i = 0; i < answers.length; i++) due("refusal " + i, answers[i], due[i]);
+    }
+
     // ---- 3 word
 
     @Promise(number = 3, says = "WORDS of 1 to 6 letters")
@@ -524,6 +549,11 @@ public final class StoryEdgesTest extends Telling {
                 }
             }
         }
+        ScriptTests x = story(2, "t");
+        flagSeven(x, 0, 3);
+        act(x, 1, 3, 0, 7);
+        x.holder(0, 2, 4, -3);
+        due("at FLAG 7 itself", failing(x, "> a b\n? 7 0\n> b\n? 7 -3\n> b"), "5!3");
     }
 
     @Promise(number = 5, says = "3 INDEX")

@@ -8,6 +8,8 @@ import java.util.Comparator;
 abstract class Telling {
     static final int NONE = -1, UNKNOWN = -2, OUTSIDE = -3, STATE = -4, FULL = -5;
     static final int MIN = Integer.MIN_VALUE, MAX = Integer.MAX_VALUE;
+    /** Stands for the exception of share(), as no answer of it can be this one. */
+    static final int THREW = -99;
     /** The bits 16 to 30 that are drawn, one behind the other, if the SEED (or a STORM's x) is 1. */
     static final int[] DRAWN_BY_ONE = {16838, 5758, 10113, 17515, 31051, 5627, 23010, 7419, 16212, 4086};
 
@@ -170,11 +172,12 @@ abstract class Telling {
         return out.toString();
     }
 
-    static int shareOf(ScriptTests x, int ifThrown) {
+    /** What share() answers, or THREW. */
+    static int shareOf(ScriptTests x) {
         try {
             return x.share();
         } catch (ArithmeticException e) {
-            return ifThrown;
+            return THREW;
         }
     }
 
